@@ -362,7 +362,7 @@ public final class ModelTest {
 
         int disturbance() {
             switch (numbers.below(12)) {
-                case 0: return oneOf(0, -1, 1001, Integer.MIN_VALUE, Integer.MAX_VALUE);
+                case 0: return oneOf(0, -1, 1000, 1001, Integer.MIN_VALUE, Integer.MAX_VALUE);
                 case 1: return 1 + numbers.below(1000);
                 default: return 1 + numbers.below(40);
             }
@@ -383,11 +383,11 @@ public final class ModelTest {
                 due("cancel(" + id + ")", x.cancel(id), model.cancel(id));
             } else if (choice == 8) {
                 int node = node();
-                int mask = oneOf(0, 1, 2, 2047, id());
+                int mask = oneOf(0, 1, 2, 2047, 2048, -1, id());
                 int value = id();
                 due("filter(" + node + ", " + mask + ", " + value + ")",
                     x.filter(node, mask, value), model.filter(node, mask, value));
-            } else if (choice == 9 && (kind != 2 || numbers.below(8) == 0)) {
+            } else if (choice == 9) {
                 int node = node();
                 due("restart(" + node + ")", x.restart(node), model.restart(node));
             } else if (choice < 13 && kind != 1) {
