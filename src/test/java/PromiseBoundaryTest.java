@@ -384,6 +384,37 @@ public final class PromiseBoundaryTest {
         due("and is sent", x.run(PAUSE + ZERO_BITS), 1);
     }
 
+    private static void restartChangesNothingElse() {
+        WireNetwork x = newFor("5: Puts a node on, with both its counts 0 (and changes nothing else)");
+        for (int i = 0; i < 7; i++) {
+            send(x, 0, 20 + i, 0, 0L);
+        }
+        x.filter(1, 1, 1);
+        x.post(code(1, 40), 0, 0L);
+        x.post(code(0, 0), 0, 0L);
+        x.disturb(ZERO_BITS + PAUSE + ZERO_TENDER_BIT);
+        x.run(ZERO_BITS);
+        due("restart(1)", x.restart(1), 0);
+        due("received(1)", x.received(1), 6);
+        due("missed(1)", x.missed(1), 1);
+        due("waiting(1)", x.waiting(1), 1);
+        due("the pause goes on", x.wire(), 3);
+        x.run(PAUSE - 1);
+        due("to its last bit time", x.wire(), 3);
+        x.run(1);
+        due("idle", x.wire(), 0);
+        x.run(ZERO_TENDER_BIT - 1);
+        due("underWay()", x.underWay(), 40);
+        x.run(1);
+        due("the disturbance comes", x.wire(), 2);
+        x.run(COMPLAINT + PAUSE);
+        x.take(1);
+        send(x, 0, 2, 0, 0L);
+        due("its filter stays: 2", x.received(1), 5);
+        send(x, 0, 3, 0, 0L);
+        due("its filter stays: 3", x.received(1), 6);
+    }
+
     private static void questionsOfNodes() {
         WireNetwork x = newFor("6 to 11: BAD if node is not good");
         x.post(code(2, 0), 0, 0L);
@@ -633,6 +664,31 @@ public final class PromiseBoundaryTest {
         due("each comes once", z.run(COMPLAINT + PAUSE + ZERO_BITS), 1);
     }
 
+    private static void disturbanceOutlastsFrames() {
+        WireNetwork x = newFor("16: at the bit time that is number n from now, whatever happens until then");
+        x.post(code(0, 0), 0, 0L);
+        x.post(code(0, 1), 0, 0L);
+        x.disturb(ZERO_BITS + PAUSE + ZERO_TENDER_BIT);
+        x.run(ZERO_BITS + PAUSE + ZERO_TENDER_BIT - 1);
+        due("the second frame: underWay()", x.underWay(), 1);
+        x.run(1);
+        due("it is broken off", x.wire(), 2);
+        WireNetwork y = new WireNetwork();
+        putOff(y, 0);
+        putOff(y, 1);
+        putOff(y, 2);
+        y.post(code(3, 0), 0, 0L);
+        int answer = ZERO_BITS - 8;
+        y.disturb(answer + COMPLAINT + PAUSE + ZERO_TENDER_BIT);
+        y.run(answer);
+        due("broken off at the answer", y.sendErrors(3), 8);
+        y.run(COMPLAINT + PAUSE + ZERO_TENDER_BIT - 1);
+        due("under way again", y.underWay(), 0);
+        y.run(1);
+        due("broken off once more", y.sendErrors(3), 16);
+        due("wire()", y.wire(), 2);
+    }
+
     private static void time() {
         WireNetwork x = newFor("17: How many bit times went by so far.");
         due("at first", x.time(), 0);
@@ -770,6 +826,7 @@ public final class PromiseBoundaryTest {
         restartNode();
         restartBusy();
         restartOfNodeThatWentOff();
+        restartChangesNothingElse();
         questionsOfNodes();
         frameAtNode();
         frameAtPlace();
@@ -780,6 +837,7 @@ public final class PromiseBoundaryTest {
         disturbRange();
         disturbNumber();
         disturbReplaced();
+        disturbanceOutlastsFrames();
         time();
         wire();
         underWay();

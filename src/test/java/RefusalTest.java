@@ -271,8 +271,8 @@ public final class RefusalTest {
         return scene.refuses("underWay()", NONE, WireNetwork::underWay);
     }
 
-    private static Scene underWay(String name, int bits) {
-        Scene scene = busyDay(name, 1).then(x -> x.disturb(40), x -> x.run(bits));
+    private static Scene underWay(String name, int disturbed, int bits) {
+        Scene scene = busyDay(name, 1).then(x -> x.disturb(disturbed), x -> x.run(bits));
         refuseForWaiting(scene, 1);
         refuseRestart(scene);
         return scene.refuses("cancel(0), under way", BUSY, x -> x.cancel(0))
@@ -338,9 +338,11 @@ public final class RefusalTest {
         List<Scene> scenes = new ArrayList<>();
         scenes.add(newObject());
         scenes.add(waiting());
-        scenes.add(underWay("under way, first bit", 1));
-        scenes.add(underWay("under way, in the middle", 25));
-        scenes.add(underWay("under way, before the disturbed bit", 39));
+        scenes.add(underWay("under way, first bit", 40, 1));
+        scenes.add(underWay("under way, in the middle", 40, 25));
+        scenes.add(underWay("under way, before the disturbed bit", 40, 39));
+        scenes.add(underWay("under way, disturbed without effect", 5, 25));
+        scenes.add(underWay("under way, before the last bit", 5, 49));
         scenes.add(inComplaint("complaint, at its beginning", 0));
         scenes.add(inComplaint("complaint, at its end", 13));
         scenes.add(inPause());

@@ -605,6 +605,30 @@ public final class TermsBoundaryTest {
         due("one that is off: receiveErrors(3)", x.receiveErrors(3), 5);
     }
 
+    private static void countsGoDownWithoutReceiving() {
+        WireNetwork x = newFor("the errors in receiving of all other nodes that are on, go down by one: "
+            + "also of those whose filter or full inbox keeps the frame out");
+        x.filter(2, 2047, 9);
+        for (int i = 0; i < 6; i++) {
+            sendZeroFrame(x, 0);
+        }
+        x.post(code(0, 0), 0, 0L);
+        breakZeroFrame(x, 2);
+        due("receiveErrors(1)", x.receiveErrors(1), 2);
+        due("receiveErrors(2)", x.receiveErrors(2), 2);
+        x.run(ZERO_BITS + PAUSE);
+        due("missed(1)", x.missed(1), 1);
+        due("the inbox is full: receiveErrors(1)", x.receiveErrors(1), 1);
+        due("received(2)", x.received(2), 0);
+        due("it doesn't pass: receiveErrors(2)", x.receiveErrors(2), 1);
+        sendZeroFrame(x, 0);
+        due("the inbox is full: receiveErrors(1)", x.receiveErrors(1), 0);
+        due("it doesn't pass: receiveErrors(2)", x.receiveErrors(2), 0);
+        sendZeroFrame(x, 0);
+        due("not below 0: receiveErrors(1)", x.receiveErrors(1), 0);
+        due("not below 0: receiveErrors(2)", x.receiveErrors(2), 0);
+    }
+
     private static void aboveTheLimitGoesOff() {
         WireNetwork x = newFor("a node whose errors in sending are above 255 then goes off");
         x.post(code(1, 0), 0, 0L);
@@ -770,6 +794,7 @@ public final class TermsBoundaryTest {
         firstBit();
         notBelowZero();
         whoseCountsGoDown();
+        countsGoDownWithoutReceiving();
         aboveTheLimitGoesOff();
         mostReceiveErrorsInPromisedCalls();
         notAboveTheLimit();
